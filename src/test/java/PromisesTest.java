@@ -19,6 +19,7 @@ public final class PromisesTest {
         effort();
         answersFollowChanges();
         objectsApart();
+        readmeExample();
         due.end();
     }
 
@@ -211,5 +212,29 @@ public final class PromisesTest {
         one.put(0, false);
         due.same("one after", one.set(5, 0), 2);
         due.same("two after", two.set(5, 0), 6);
+    }
+
+    /** The calls of README.md in their order, so that it does not tell an answer that the class does not give. */
+    private static void readmeExample() {
+        ArgumentDesk desk = new ArgumentDesk();
+        due.same("README: put(0, true)", desk.put(0, true), true);
+        desk.put(1, true);
+        desk.put(2, true);
+        due.same("README: attack(0, 1, true)", desk.attack(0, 1, true), true);
+        desk.attack(1, 2, true);
+        due.same("README: attack(1, 2, true) again", desk.attack(1, 2, true), false);
+        due.same("README: attackers(2)", desk.attackers(2), 2);
+        due.same("README: count(8)", desk.count(8), 2);
+        due.same("README: set(8, 0)", desk.set(8, 0), 2);
+        due.same("README: set(8, 1)", desk.set(8, 1), 5);
+        due.same("README: set(8, 2)", desk.set(8, 2), NONE);
+        due.same("README: is(5, 5)", desk.is(5, 5), true);
+        due.same("README: some(8)", desk.some(8), 7);
+        due.same("README: every(8)", desk.every(8), 0);
+        due.same("README: round(2)", desk.round(2), 2);
+        due.same("README: weak(6)", desk.weak(6), 6);
+        due.same("README: agree(3, 5)", desk.agree(3, 5), true);
+        due.same("README: effort(4)", desk.effort(4), 2);
+        due.same("README: count(12)", desk.count(12), BAD);
     }
 }
